@@ -168,11 +168,11 @@ public final class ModelTest {
     }
 
     private static void oneCall(String at, ActionPlanner x, Model m, int width, int dearest) {
-        int action = chance.nextInt(10) == 0 ? chance.nextInt(16) - 3 : chance.nextInt(10);
+        int action = atTimesExtreme(chance.nextInt(10) == 0 ? chance.nextInt(16) - 3 : chance.nextInt(10));
         int first = set(width);
         int second = set(width);
-        int price = chance.nextInt(dearest + 2);
-        int place = chance.nextInt(12) - 1;
+        int price = atTimesExtreme(chance.nextInt(dearest + 2));
+        int place = atTimesExtreme(chance.nextInt(12) - 1);
         switch (chance.nextInt(16)) {
             case 0, 1 -> Check.due(at + " require", x.require(action, first, second), m.require(action, first, second));
             case 2, 3, 4 -> Check.due(at + " effect", x.effect(action, first, second, price),
@@ -205,6 +205,12 @@ public final class ModelTest {
             case 14 -> Check.due(at + " act", x.act(action), m.act(action));
             default -> Check.due(at + " reachable", x.reachable(), m.reachable());
         }
+    }
+
+    /** The number, or now and then one that no call may stumble over. */
+    private static int atTimesExtreme(int number) {
+        int[] extremes = {Integer.MIN_VALUE, Integer.MIN_VALUE + 1, -256, 255, 256, Integer.MAX_VALUE - 1, Integer.MAX_VALUE};
+        return chance.nextInt(40) == 0 ? extremes[chance.nextInt(extremes.length)] : number;
     }
 
     /** A set of at most width facts, at times with bits above the lowest eight. */
