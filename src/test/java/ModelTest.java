@@ -180,6 +180,8 @@ public final class ModelTest {
             case 5 -> {
                 if (chance.nextInt(4) == 0) {
                     Check.due(at + " forget", x.forget(action), m.forget(action));
+                } else {
+                    Check.due(at + " now", x.now(), m.now);
                 }
             }
             case 6 -> {
